@@ -86,7 +86,10 @@ public final class TapeAndFormTest {
         k.add(5, NONE, 1);
         c.due("with a word", c.told(0), "A 1");
         c.due("without", c.told(1), "1");
+        k.form(0, 3, 2, 1);
         c.word(0, "Xy");
+        c.due("a word leaves scope, style, join", k.count(10) * 100 + k.count(20) * 10 + k.count(30), 321);
+        k.form(0, 0, 0, 0);
         c.due("another word", c.told(0), "Xy 1");
     }
 

@@ -357,6 +357,14 @@ public final class ThingTest {
         c.due("other kinds too", c.told(13), "a");
         c.due("with join 0, too", k.thing(14, 8), 9);
         c.due("with join 0, too", k.thing(15, 8), NONE);
+        k.form(0, 0, 0, 1);
+        for (int x = 11; x < 16; x++) {
+            on = k.add(0, x == 11 ? 11 : on, 0);
+        }
+        c.due("31 bytes", c.told(19), "1.1.1.1.1.1.1.1.1.1.1.1.1.1.1.1");
+        c.due("31 are none", k.thing(20, 8), NONE);
+        c.due("29 are a base", k.thing(19, 8), 18);
+        k.form(0, 0, 0, 2);
         k.form(2, 2, 0, 0);
         c.due("the nearest above is no base", k.thing(15, 8), NONE);
         c.due("but the scope", k.thing(15, 4), 1);
