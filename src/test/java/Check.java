@@ -1,21 +1,24 @@
+import java.util.Arrays;
+
 /** What the tests share: a keeper to call with texts instead of bytes, and a tally of wrong answers. */
 final class Check {
     private static final int MOST_BYTES = 700;
+    private static final int MOST_PLACES = 200;
 
     private final String test;
     private String part = "";
     private int wrong;
     private int asked;
-    NumberKeeper keeper;
+    CountedKeeper keeper;
 
     Check(String test) {
         this.test = test;
     }
 
     /** Begins a part of the test, on a new object. */
-    NumberKeeper fresh(String name) {
+    CountedKeeper fresh(String name) {
         part = name;
-        keeper = new NumberKeeper();
+        keeper = new CountedKeeper();
         return keeper;
     }
 
@@ -70,16 +73,20 @@ final class Check {
 
     String told(int x) {
         StringBuilder all = new StringBuilder();
-        for (int i = 0; i < MOST_BYTES && keeper.told(x, i) != NumberKeeper.NONE; i++) {
-            all.append((char) keeper.told(x, i));
+        int b = keeper.told(x, 0);
+        while (b != NumberKeeper.NONE && all.length() < MOST_BYTES) {
+            all.append((char) b);
+            b = keeper.told(x, all.length());
         }
         return all.toString();
     }
 
     String text(int m) {
         StringBuilder all = new StringBuilder();
-        for (int i = 0; i < MOST_BYTES && keeper.text(m, i) != NumberKeeper.NONE; i++) {
-            all.append((char) keeper.text(m, i));
+        int b = keeper.text(m, 0);
+        while (b != NumberKeeper.NONE && all.length() < MOST_BYTES) {
+            all.append((char) b);
+            b = keeper.text(m, all.length());
         }
         due("bytes of mention " + m, keeper.about(m, 5), all.length());
         return all.toString();
@@ -91,21 +98,60 @@ final class Check {
                 + keeper.finding(i, 3) + " " + keeper.finding(i, 4);
     }
 
+    /** All that thing() tells of one, what 0 to 8. */
+    String thing(int x) {
+        int[] all = new int[9];
+        for (int what = 0; what < all.length; what++) {
+            all[what] = keeper.thing(x, what);
+        }
+        return row(all);
+    }
+
+    /** All that about() tells of a mention, what 0 to 5. */
+    String about(int m) {
+        int[] all = new int[6];
+        for (int what = 0; what < all.length; what++) {
+            all[what] = keeper.about(m, what);
+        }
+        return row(all);
+    }
+
+    /** What count() tells of things, those there, mentions, editions, the log and the tape. */
+    String counts() {
+        int[] all = new int[6];
+        for (int what = 0; what < all.length; what++) {
+            all[what] = keeper.count(what);
+        }
+        return row(all);
+    }
+
+    private static String row(int[] all) {
+        String text = Arrays.toString(all);
+        return text.substring(1, text.length() - 1).replace(",", "");
+    }
+
+    private int[] places() {
+        int[] all = new int[MOST_PLACES];
+        int size = 0;
+        int x = keeper.at(0);
+        while (x != NumberKeeper.NONE && size < MOST_PLACES) {
+            all[size] = x;
+            size++;
+            x = keeper.at(size);
+        }
+        return Arrays.copyOf(all, size);
+    }
+
     /** The order of the text, as the numbers of its things. */
     String order() {
-        StringBuilder all = new StringBuilder();
-        for (int place = 0; place < 200 && keeper.at(place) != NumberKeeper.NONE; place++) {
-            all.append(place == 0 ? "" : " ").append(keeper.at(place));
-        }
-        return all.toString();
+        return row(places());
     }
 
     /** The tree as each thing in the order with what it hangs on, the how-manyth there. */
     String tree() {
         StringBuilder all = new StringBuilder();
-        for (int place = 0; place < 200 && keeper.at(place) != NumberKeeper.NONE; place++) {
-            int x = keeper.at(place);
-            all.append(place == 0 ? "" : " ").append(x).append(':').append(keeper.thing(x, 1)).append('/')
+        for (int x : places()) {
+            all.append(all.length() == 0 ? "" : " ").append(x).append(':').append(keeper.thing(x, 1)).append('/')
                     .append(keeper.thing(x, 2));
         }
         return all.toString();

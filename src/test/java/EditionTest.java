@@ -15,8 +15,8 @@ public final class EditionTest {
         c.finish();
     }
 
-    private static NumberKeeper three(Check c, String name) {
-        NumberKeeper k = c.fresh(name);
+    private static CountedKeeper three(Check c, String name) {
+        CountedKeeper k = c.fresh(name);
         c.word(0, "Part");
         k.form(0, 0, 0, 1);
         k.add(0, NONE, 0);
@@ -26,7 +26,7 @@ public final class EditionTest {
     }
 
     private static void making(Check c) {
-        NumberKeeper k = c.fresh("edition");
+        CountedKeeper k = c.fresh("edition");
         for (int e = 0; e < 8; e++) {
             c.due("edition", k.edition(), e);
         }
@@ -37,7 +37,7 @@ public final class EditionTest {
     }
 
     private static void oldNumbers(Check c) {
-        NumberKeeper k = three(c, "old");
+        CountedKeeper k = three(c, "old");
         k.add(1, NONE, 2);
         k.edition();
         k.move(1, NONE, 0);
@@ -72,7 +72,7 @@ public final class EditionTest {
     }
 
     private static void leading(Check c) {
-        NumberKeeper k = three(c, "leads");
+        CountedKeeper k = three(c, "leads");
         k.edition();
         k.add(0, NONE, 2);
         c.due("itself", k.leads(0, 2), 2);
@@ -96,7 +96,7 @@ public final class EditionTest {
     }
 
     private static void changing(Check c) {
-        NumberKeeper k = three(c, "changed");
+        CountedKeeper k = three(c, "changed");
         k.edition();
         int[] wrong = {1, -1, MOST, LEAST};
         for (int w : wrong) {

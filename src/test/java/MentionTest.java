@@ -22,8 +22,8 @@ public final class MentionTest {
     }
 
     /** Chapters 0 (2 .. 5), 1 (6, 7): sections below them, numbered chapter.section. */
-    private static NumberKeeper book(Check c, String name) {
-        NumberKeeper k = c.fresh(name);
+    private static CountedKeeper book(Check c, String name) {
+        CountedKeeper k = c.fresh(name);
         c.word(0, "Chapter");
         c.word(1, "Section");
         k.form(1, 0, 0, 1);
@@ -45,7 +45,7 @@ public final class MentionTest {
     }
 
     private static void ofThings(Check c) {
-        NumberKeeper k = book(c, "mention of a thing");
+        CountedKeeper k = book(c, "mention of a thing");
         int[][] wrong = {{-1, 0, 1}, {8, 0, 1}, {0, 0, 8}, {0, 0, -1}, {0, 1, 1}, {0, 4, 1}, {0, -1, 1}, {0, 5, 1},
             {MOST, 0, 0}, {0, LEAST, 0}, {0, 0, MOST}};
         for (int[] w : wrong) {
@@ -80,7 +80,7 @@ public final class MentionTest {
     }
 
     private static void ofKinds(Check c) {
-        NumberKeeper k = book(c, "the next and the latest one");
+        CountedKeeper k = book(c, "the next and the latest one");
         c.due("kind 6", k.mention(3, 2, 6), RANGE);
         c.due("kind -1", k.mention(3, 3, -1), RANGE);
         c.due("next section", k.mention(3, 2, 1), 0);
@@ -109,7 +109,7 @@ public final class MentionTest {
     }
 
     private static void inOnesThatGo(Check c) {
-        NumberKeeper k = book(c, "mentions in things that go");
+        CountedKeeper k = book(c, "mentions in things that go");
         k.mention(4, 0, 6);
         k.mention(4, 3, 1);
         k.join(3, 4);
@@ -138,7 +138,7 @@ public final class MentionTest {
     }
 
     private static void ranges(Check c) {
-        NumberKeeper k = book(c, "range");
+        CountedKeeper k = book(c, "range");
         // The order: 0 2 3 4 5 1 6 7.
         int[][] wrong = {{-1, 1, 0, 7}, {8, 1, 0, 7}, {0, -1, 0, 7}, {0, 6, 0, 7}, {0, 1, -1, 7}, {0, 1, 0, 8},
             {0, 1, 7, 0}, {0, 1, 1, 1}, {0, 2, 0, 7}, {0, 0, 1, 5}, {0, 1, LEAST, MOST}, {MOST, 1, 0, 7}};
@@ -167,7 +167,7 @@ public final class MentionTest {
     }
 
     private static void runs(Check c) {
-        NumberKeeper k = c.fresh("runs");
+        CountedKeeper k = c.fresh("runs");
         k.form(0, 1, 3, 0);
         for (int x = 0; x < 6; x++) {
             k.add(0, NONE, x);
@@ -187,12 +187,14 @@ public final class MentionTest {
         due(c, "the same base now", 0, new int[] {1, 0, 2, 2, 0}, "ii to iii, v to vi");
     }
 
-    private static void longRange(Check c) {
-        NumberKeeper k = c.fresh("the longest text");
+    private static final String LONG_BASE = "(i)(i)(i)(i)(i)(i)(i)(i)(i)(i)";
+
+    /** A range of the 77th to the 88th of those that hang on one with a number of 30 bytes. */
+    private static int longRangeOn(Check c, String name) {
+        CountedKeeper k = c.fresh(name);
         c.word(0, "abcdefghij");
         k.form(1, 0, 3, 2);
         k.form(0, 0, 3, 2);
-        // A base of 30 bytes: ten times "(i)".
         int on = NONE;
         for (int i = 0; i < 10; i++) {
             on = k.add(1, on, 0);
@@ -200,19 +202,24 @@ public final class MentionTest {
         for (int i = 0; i < 90; i++) {
             k.add(0, on, i);
         }
-        k.range(0, 0, 10 + 76, 10 + 87);
-        String base = "(i)(i)(i)(i)(i)(i)(i)(i)(i)(i)";
-        c.due("one run", c.text(0), "abcdefghij " + base + "(lxxvii) to " + base + "(lxxxviii)");
-        // 1 ones to 12 ones: every second one is pushed away by one of another range.
+        c.due("range", k.range(0, 0, 10 + 76, 10 + 87), 0);
+        return on;
+    }
+
+    private static void longRange(Check c) {
+        longRangeOn(c, "a long text of one run");
+        c.due("text", c.text(0), "abcdefghij " + LONG_BASE + "(lxxvii) to " + LONG_BASE + "(lxxxviii)");
+        int on = longRangeOn(c, "a long text of many runs");
         for (int i = 0; i < 6; i++) {
-            k.move(10 + i, on, 78 + i);
+            c.keeper.move(10 + i, on, 78 + i);
         }
-        c.due("runs", k.about(0, 3), 7);
-        c.due("bytes", k.about(0, 5), c.text(0).length());
+        c.due("runs", c.keeper.about(0, 3), 7);
+        String text = "(lxxi) to (lxxiii), (lxxv), (lxxvii), (lxxix), (lxxxi), (lxxxiii), (lxxxv) to (lxxxviii)";
+        c.due("text", c.text(0), "abcdefghij " + text.replace("(", LONG_BASE + "("));
     }
 
     private static void rangesOfGoneAndJoined(Check c) {
-        NumberKeeper k = book(c, "ranges of gone and joined ones");
+        CountedKeeper k = book(c, "ranges of gone and joined ones");
         k.range(7, 1, 1, 4);
         k.cut(3);
         due(c, "one gone", 0, new int[] {1, 7, 2, 1, 1}, "Section 1.1 to 1.3");
@@ -229,7 +236,7 @@ public final class MentionTest {
     }
 
     private static void frozen(Check c) {
-        NumberKeeper k = book(c, "frozen");
+        CountedKeeper k = book(c, "frozen");
         c.due("no edition", k.frozen(0, 7, 0), RANGE);
         k.edition();
         k.add(1, 1, 2);
@@ -260,7 +267,7 @@ public final class MentionTest {
     }
 
     private static void trouble(Check c) {
-        NumberKeeper k = book(c, "trouble");
+        CountedKeeper k = book(c, "trouble");
         k.mention(0, 0, 7);
         k.mention(1, 2, 0);
         k.range(0, 1, 1, 4);
@@ -278,7 +285,7 @@ public final class MentionTest {
     }
 
     private static void full(Check c) {
-        NumberKeeper k = book(c, "100 mentions");
+        CountedKeeper k = book(c, "100 mentions");
         k.edition();
         for (int m = 0; m < 100; m++) {
             c.due("mention", m % 2 == 0 ? k.mention(0, 0, 1) : k.range(0, 1, 1, 2), m);

@@ -1,10 +1,7 @@
-import java.util.ArrayList;
-import java.util.List;
 import java.util.Random;
 
 /** Random runs of 512 calls, with fixed seeds: every answer is that of the plain model. */
 public final class ModelTest {
-    private static final int CALLS = 512;
     private static final String[] WORDS = {"Part", "Par", "Note", "P", "", "Section", "abcdefghij", "Note"};
     private static final String[] CALL_NAMES = {"feed", "end", "word", "form", "add", "move", "cut", "join", "undo",
         "thing", "at", "told", "twins", "mention", "range", "frozen", "about", "text", "trouble", "edition", "old",
@@ -12,11 +9,9 @@ public final class ModelTest {
     private static final int ADD = 4;
 
     private final Random random;
-    private final NumberKeeper keeper = new NumberKeeper();
-    private final PlainModel model = new PlainModel();
-    private final List<String> run = new ArrayList<>();
+    private final Twin twin = new Twin();
+    private final PlainModel model = twin.model;
     private final int[] weights = new int[CALL_NAMES.length];
-    private boolean isWrong;
 
     private ModelTest(long seed) {
         random = new Random(seed);
@@ -39,7 +34,7 @@ public final class ModelTest {
             if (!test.isRunRight()) {
                 wrong++;
                 System.out.println("seed " + seed + ": ");
-                test.run.forEach(call -> System.out.println("  " + call));
+                test.twin.tell();
             }
         }
         System.out.println("ModelTest: " + runs + " runs, " + wrong + " wrong");
@@ -62,7 +57,7 @@ public final class ModelTest {
         if (random.nextInt(3) == 0) {
             addMany();
         }
-        while (run.size() < CALLS && !isWrong) {
+        while (twin.goesOn()) {
             int n = random.nextInt(all);
             int call = 0;
             while (n >= weights[call]) {
@@ -71,7 +66,7 @@ public final class ModelTest {
             }
             oneOf(CALL_NAMES[call]);
         }
-        return !isWrong;
+        return !twin.isWrong;
     }
 
     /** Many things of few kinds, deep or flat, for long numbers, high counts and full rows. */
@@ -101,13 +96,15 @@ public final class ModelTest {
 
     /** Mostly a number below n, now and then one that can't be. */
     private int near(int n) {
-        switch (random.nextInt(30)) {
+        switch (random.nextInt(40)) {
             case 0:
                 return -1 - random.nextInt(3);
             case 1:
                 return n + random.nextInt(3);
             case 2:
                 return random.nextInt();
+            case 3:
+                return random.nextBoolean() ? Integer.MIN_VALUE : Integer.MAX_VALUE;
             default:
                 return upTo(n);
         }
@@ -248,7 +245,7 @@ public final class ModelTest {
 
     private void tellAll(int x) {
         int from = random.nextInt(4) == 0 ? near(20) : 0;
-        for (int i = from; run.size() < CALLS && !isWrong; i++) {
+        for (int i = from; twin.goesOn(); i++) {
             if (call("told", x, i) == -1) {
                 return;
             }
@@ -258,7 +255,7 @@ public final class ModelTest {
     private void textOf(int m) {
         call("about", m, 5);
         int from = random.nextInt(4) == 0 ? near(60) : 0;
-        for (int i = from; run.size() < CALLS && !isWrong && i < from + 60; i++) {
+        for (int i = from; twin.goesOn() && i < from + 60; i++) {
             if (call("text", m, i) == -1) {
                 return;
             }
@@ -302,88 +299,10 @@ public final class ModelTest {
     }
 
     private void setTape(String text) {
-        call("end", 0);
-        for (int from = 0; from < text.length(); from += 20) {
-            call("feed", Check.four(text, from), Check.four(text, from + 4), Check.four(text, from + 8),
-                    Check.four(text, from + 12), Check.four(text, from + 16));
-        }
-        call("end", text.length());
+        twin.setTape(text);
     }
 
     private int call(String name, int... a) {
-        if (isWrong || run.size() >= CALLS) {
-            return -1;
-        }
-        int got = ofKeeper(name, a);
-        int want = ofModel(name, a);
-        isWrong = got != want;
-        StringBuilder told = new StringBuilder(name).append('(');
-        for (int i = 0; i < a.length; i++) {
-            told.append(i == 0 ? "" : ", ").append(a[i]);
-        }
-        run.add(told.append(") = ").append(got).append(isWrong ? ", due is " + want : "").toString());
-        return want;
-    }
-
-    private int ofKeeper(String name, int[] a) {
-        switch (name) {
-            case "feed": return keeper.feed(a[0], a[1], a[2], a[3], a[4]);
-            case "end": return keeper.end(a[0]);
-            case "word": return keeper.word(a[0]);
-            case "form": return keeper.form(a[0], a[1], a[2], a[3]);
-            case "add": return keeper.add(a[0], a[1], a[2]);
-            case "move": return keeper.move(a[0], a[1], a[2]);
-            case "cut": return keeper.cut(a[0]);
-            case "join": return keeper.join(a[0], a[1]);
-            case "undo": return keeper.undo();
-            case "thing": return keeper.thing(a[0], a[1]);
-            case "at": return keeper.at(a[0]);
-            case "told": return keeper.told(a[0], a[1]);
-            case "twins": return keeper.twins();
-            case "mention": return keeper.mention(a[0], a[1], a[2]);
-            case "range": return keeper.range(a[0], a[1], a[2], a[3]);
-            case "frozen": return keeper.frozen(a[0], a[1], a[2]);
-            case "about": return keeper.about(a[0], a[1]);
-            case "text": return keeper.text(a[0], a[1]);
-            case "trouble": return keeper.trouble();
-            case "edition": return keeper.edition();
-            case "old": return keeper.old(a[0], a[1]);
-            case "leads": return keeper.leads(a[0], a[1]);
-            case "changed": return keeper.changed(a[0]);
-            case "read": return keeper.read(a[0]);
-            case "finding": return keeper.finding(a[0], a[1]);
-            default: return keeper.count(a[0]);
-        }
-    }
-
-    private int ofModel(String name, int[] a) {
-        switch (name) {
-            case "feed": return model.feed(a[0], a[1], a[2], a[3], a[4]);
-            case "end": return model.end(a[0]);
-            case "word": return model.word(a[0]);
-            case "form": return model.form(a[0], a[1], a[2], a[3]);
-            case "add": return model.add(a[0], a[1], a[2]);
-            case "move": return model.move(a[0], a[1], a[2]);
-            case "cut": return model.cut(a[0]);
-            case "join": return model.join(a[0], a[1]);
-            case "undo": return model.undo();
-            case "thing": return model.thing(a[0], a[1]);
-            case "at": return model.at(a[0]);
-            case "told": return model.told(a[0], a[1]);
-            case "twins": return model.twins();
-            case "mention": return model.mention(a[0], a[1], a[2]);
-            case "range": return model.range(a[0], a[1], a[2], a[3]);
-            case "frozen": return model.frozen(a[0], a[1], a[2]);
-            case "about": return model.about(a[0], a[1]);
-            case "text": return model.text(a[0], a[1]);
-            case "trouble": return model.trouble();
-            case "edition": return model.edition();
-            case "old": return model.old(a[0], a[1]);
-            case "leads": return model.leads(a[0], a[1]);
-            case "changed": return model.changed(a[0]);
-            case "read": return model.read(a[0]);
-            case "finding": return model.finding(a[0], a[1]);
-            default: return model.count(a[0]);
-        }
+        return twin.call(name, a);
     }
 }

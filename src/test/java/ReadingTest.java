@@ -18,8 +18,8 @@ public final class ReadingTest {
     }
 
     /** Parts 0 (2, 3), 1 (4): parts below parts, numbered 1.2; notes 5, 6 on 2 and 7 on 4 as 1.1(a). */
-    private static NumberKeeper book(Check c, String name) {
-        NumberKeeper k = c.fresh(name);
+    private static CountedKeeper book(Check c, String name) {
+        CountedKeeper k = c.fresh(name);
         c.word(0, "Part");
         c.word(1, "Note");
         k.form(0, 0, 0, 1);
@@ -44,7 +44,7 @@ public final class ReadingTest {
     }
 
     private static void findings(Check c) {
-        NumberKeeper k = book(c, "findings");
+        CountedKeeper k = book(c, "findings");
         due(c, 0, "");
         due(c, 0, "See Part 1.2, Part 7 and Note 2.1(a).", "4-12 0 1 3", "14-20 0 0 -1", "25-36 1 1 7");
         int[][] none = {{-1, 0}, {3, 0}, {0, 5}, {0, -1}, {Integer.MAX_VALUE, 0}, {Integer.MIN_VALUE, 0},
@@ -82,7 +82,7 @@ public final class ReadingTest {
     }
 
     private static void longestPart(Check c) {
-        NumberKeeper k = book(c, "the longest part of the run that means something");
+        CountedKeeper k = book(c, "the longest part of the run that means something");
         due(c, 7, "Part 1.2.", "0-8 0 1 3");
         due(c, 7, "Part 1.2x", "0-8 0 1 3");
         due(c, 7, "Part 1.9", "0-6 0 2 0");
@@ -99,7 +99,7 @@ public final class ReadingTest {
     }
 
     private static void meanings(Check c) {
-        NumberKeeper k = book(c, "meanings");
+        CountedKeeper k = book(c, "meanings");
         due(c, 0, "Part 1", "0-6 0 2 0");
         due(c, 1, "Part 2", "0-6 0 1 1");
         due(c, 4, "Part 1", "0-6 0 2 0");
@@ -120,7 +120,7 @@ public final class ReadingTest {
     }
 
     private static void brackets(Check c) {
-        NumberKeeper k = book(c, "signs in brackets");
+        CountedKeeper k = book(c, "signs in brackets");
         due(c, 2, "Note (b)", "0-8 1 1 6");
         due(c, 6, "Note (b)", "0-8 1 1 6");
         due(c, 2, "Note b", "0-6 1 0 -1");
@@ -139,7 +139,7 @@ public final class ReadingTest {
     }
 
     private static void words(Check c) {
-        NumberKeeper k = book(c, "words");
+        CountedKeeper k = book(c, "words");
         c.word(2, "Part");
         k.add(2, NONE, 2);
         k.add(2, NONE, 3);
@@ -154,7 +154,7 @@ public final class ReadingTest {
     }
 
     private static void kept(Check c) {
-        NumberKeeper k = book(c, "findings are kept as they were");
+        CountedKeeper k = book(c, "findings are kept as they were");
         due(c, 0, "Part 1.2", "0-8 0 1 3");
         k.cut(0);
         c.word(0, "Teil");
@@ -165,7 +165,7 @@ public final class ReadingTest {
     }
 
     private static void many(Check c) {
-        NumberKeeper k = c.fresh("more than 40 findings");
+        CountedKeeper k = c.fresh("more than 40 findings");
         c.word(0, "P");
         k.add(0, NONE, 0);
         StringBuilder text = new StringBuilder();
@@ -187,7 +187,7 @@ public final class ReadingTest {
     }
 
     private static void longBase(Check c) {
-        NumberKeeper k = c.fresh("a base with too long a number is none in reading, too");
+        CountedKeeper k = c.fresh("a base with too long a number is none in reading, too");
         c.word(1, "N");
         k.form(0, 0, 0, 2);
         k.form(1, 0, 1, 0);

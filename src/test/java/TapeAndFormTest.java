@@ -16,7 +16,7 @@ public final class TapeAndFormTest {
     }
 
     private static void newObject(Check c) {
-        NumberKeeper k = c.fresh("a new object");
+        CountedKeeper k = c.fresh("a new object");
         for (int what = 0; what <= 5; what++) {
             c.due("count " + what, k.count(what), 0);
         }
@@ -38,7 +38,7 @@ public final class TapeAndFormTest {
     }
 
     private static void tape(Check c) {
-        NumberKeeper k = c.fresh("feed and end");
+        CountedKeeper k = c.fresh("feed and end");
         for (int n = 20; n <= 600; n += 20) {
             c.due("feed to " + n, k.feed(1, 2, 3, 4, 5), n);
         }
@@ -67,7 +67,7 @@ public final class TapeAndFormTest {
     }
 
     private static void words(Check c) {
-        NumberKeeper k = c.fresh("word");
+        CountedKeeper k = c.fresh("word");
         c.due("one letter", c.word(0, "A"), 1);
         c.due("ten letters", c.word(5, "abcdefXYZz"), 10);
         c.due("eleven letters", c.word(5, "abcdefXYZza"), RANGE);
@@ -94,7 +94,7 @@ public final class TapeAndFormTest {
     }
 
     private static void forms(Check c) {
-        NumberKeeper k = c.fresh("form");
+        CountedKeeper k = c.fresh("form");
         c.due("most", k.form(5, 7, 4, 2), 1);
         int[][] wrong = {{6, 0, 0, 0}, {-1, 0, 0, 0}, {5, 8, 0, 0}, {5, -1, 0, 0}, {5, 0, 5, 0}, {5, 0, -1, 0},
             {5, 0, 0, 3}, {5, 0, 0, -1}};
@@ -114,7 +114,7 @@ public final class TapeAndFormTest {
     }
 
     private static void tapeIsEmptiedByReading(Check c) {
-        NumberKeeper k = c.fresh("each call that reads the tape empties it");
+        CountedKeeper k = c.fresh("each call that reads the tape empties it");
         k.add(0, NONE, 0);
         k.edition();
         int[] after = new int[7];
@@ -142,7 +142,7 @@ public final class TapeAndFormTest {
     }
 
     private static void counts(Check c) {
-        NumberKeeper k = c.fresh("count");
+        CountedKeeper k = c.fresh("count");
         k.add(0, NONE, 0);
         k.add(0, 0, 0);
         k.add(0, 1, 0);

@@ -27,8 +27,8 @@ public final class ThingTest {
     }
 
     /** 0 (1 (2, 3), 4), 5: all of kind 0 but 3 and 4, of kind 1. */
-    private static NumberKeeper small(Check c, String name) {
-        NumberKeeper k = c.fresh(name);
+    private static CountedKeeper small(Check c, String name) {
+        CountedKeeper k = c.fresh(name);
         k.add(0, NONE, 0);
         k.add(0, 0, 0);
         k.add(0, 1, 0);
@@ -41,7 +41,7 @@ public final class ThingTest {
     private static final String SMALL = "0:-1/0 1:0/0 2:1/0 3:1/1 4:0/1 5:-1/1";
 
     private static void adding(Check c) {
-        NumberKeeper k = small(c, "add");
+        CountedKeeper k = small(c, "add");
         c.due("tree", c.tree(), SMALL);
         c.due("ahead of all", k.add(2, NONE, 0), 6);
         c.due("between", k.add(2, 0, 1), 7);
@@ -58,7 +58,7 @@ public final class ThingTest {
     }
 
     private static void moving(Check c) {
-        NumberKeeper k = small(c, "move");
+        CountedKeeper k = small(c, "move");
         int[][] wrong = {{-1, NONE, 0}, {6, NONE, 0}, {0, -2, 0}, {0, 6, 0}, {0, 0, 0}, {0, 1, 0}, {0, 2, 0},
             {0, NONE, 2}, {0, NONE, -1}, {5, 0, 3}, {1, 0, 2}, {MOST, NONE, 0}, {0, LEAST, 0}, {0, NONE, MOST}};
         for (int[] w : wrong) {
@@ -81,7 +81,7 @@ public final class ThingTest {
     }
 
     private static void movingCountsNumbers(Check c) {
-        NumberKeeper k = c.fresh("move tells how many have another number");
+        CountedKeeper k = c.fresh("move tells how many have another number");
         k.form(0, 0, 0, 1);
         k.form(1, 1, 1, 0);
         for (int i = 0; i < 4; i++) {
@@ -109,7 +109,7 @@ public final class ThingTest {
     }
 
     private static void cutting(Check c) {
-        NumberKeeper k = small(c, "cut");
+        CountedKeeper k = small(c, "cut");
         c.due("no such", k.cut(6), RANGE);
         c.due("none", k.cut(NONE), RANGE);
         c.due("least", k.cut(LEAST), RANGE);
@@ -124,7 +124,7 @@ public final class ThingTest {
     }
 
     private static void joining(Check c) {
-        NumberKeeper k = c.fresh("join");
+        CountedKeeper k = c.fresh("join");
         k.add(0, NONE, 0);
         k.add(0, NONE, 1);
         k.add(1, NONE, 2);
@@ -153,7 +153,7 @@ public final class ThingTest {
     }
 
     private static void undoing(Check c) {
-        NumberKeeper k = c.fresh("undo");
+        CountedKeeper k = c.fresh("undo");
         k.form(0, 0, 0, 1);
         String[] trees = new String[20];
         k.add(0, NONE, 0);
@@ -212,7 +212,7 @@ public final class ThingTest {
     }
 
     private static void fullThings(Check c) {
-        NumberKeeper k = c.fresh("120 things");
+        CountedKeeper k = c.fresh("120 things");
         for (int x = 0; x < 120; x++) {
             c.due("add", k.add(0, NONE, x), x);
         }
@@ -229,7 +229,7 @@ public final class ThingTest {
     }
 
     private static void fullLog(Check c) {
-        NumberKeeper k = c.fresh("200 entries");
+        CountedKeeper k = c.fresh("200 entries");
         k.add(0, NONE, 0);
         k.add(0, NONE, 1);
         for (int n = 2; n < 200; n++) {
@@ -255,7 +255,7 @@ public final class ThingTest {
     }
 
     private static void scopes(Check c) {
-        NumberKeeper k = c.fresh("scopes");
+        CountedKeeper k = c.fresh("scopes");
         // 0 part (1 chapter (2 note, 3 note), 4 chapter (5 note (6 note))), 7 note, 8 part (9 note)
         k.add(0, NONE, 0);
         k.add(1, 0, 0);
@@ -276,7 +276,7 @@ public final class ThingTest {
         countsOf(c, k, notes, 7, new int[] {1, 2, 3, 4, 5, 6}, new int[] {NONE, NONE, NONE, NONE, NONE, NONE});
     }
 
-    private static void countsOf(Check c, NumberKeeper k, int[] things, int scope, int[] counts, int[] bases) {
+    private static void countsOf(Check c, CountedKeeper k, int[] things, int scope, int[] counts, int[] bases) {
         k.form(2, scope, 0, 1);
         for (int i = 0; i < things.length; i++) {
             c.due("count of " + things[i] + " in scope " + scope, k.thing(things[i], 4), counts[i]);
@@ -285,7 +285,7 @@ public final class ThingTest {
     }
 
     private static void signs(Check c) {
-        NumberKeeper k = c.fresh("signs");
+        CountedKeeper k = c.fresh("signs");
         for (int x = 0; x < 120; x++) {
             k.add(0, NONE, x);
         }
@@ -307,7 +307,7 @@ public final class ThingTest {
     }
 
     private static void joins(Check c) {
-        NumberKeeper k = c.fresh("joins");
+        CountedKeeper k = c.fresh("joins");
         k.add(0, NONE, 0);
         k.add(0, NONE, 1);
         k.add(1, 1, 0);
@@ -336,7 +336,7 @@ public final class ThingTest {
     }
 
     private static void longBases(Check c) {
-        NumberKeeper k = c.fresh("a base with more than 30 bytes");
+        CountedKeeper k = c.fresh("a base with more than 30 bytes");
         k.form(0, 0, 0, 2);
         k.form(1, 0, 1, 1);
         k.form(2, 0, 0, 0);
@@ -371,7 +371,7 @@ public final class ThingTest {
     }
 
     private static void deepTree(Check c) {
-        NumberKeeper k = c.fresh("120 deep");
+        CountedKeeper k = c.fresh("120 deep");
         k.form(0, 2, 0, 1);
         int on = NONE;
         for (int x = 0; x < 120; x++) {
@@ -387,7 +387,7 @@ public final class ThingTest {
     }
 
     private static void gone(Check c) {
-        NumberKeeper k = small(c, "thing");
+        CountedKeeper k = small(c, "thing");
         k.form(0, 1, 0, 1);
         int[] zero = {0, NONE, 0, 2, 1, 0, 1, NONE, NONE};
         int[] two = {0, 1, 0, 0, 3, 2, 1, NONE, 1};
@@ -417,7 +417,7 @@ public final class ThingTest {
     }
 
     private static void twins(Check c) {
-        NumberKeeper k = small(c, "twins");
+        CountedKeeper k = small(c, "twins");
         // Of kind 0: 0 "1", 1 "1", 2 "1", 5 "2"; of kind 1: 3 "1", 4 "1".
         c.due("pairs of one kind", k.twins(), 4);
         k.form(0, 0, 0, 1);
