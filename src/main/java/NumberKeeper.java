@@ -769,6 +769,11 @@ public final class NumberKeeper {
             return all;
         }
 
+        /** How many of a kind the order has up to this one, itself among them. */
+        int seenOf(int someKind) {
+            return someKind >= 0 && someKind < seen.length ? seen[someKind] : 0;
+        }
+
         Thing lead() {
             Thing last = this;
             for (Thing t = into; t != null; t = t.into) {
@@ -901,7 +906,7 @@ public final class NumberKeeper {
                 last = t;
                 t.place = place;
                 place++;
-                tally[t.kind]++;
+                tallyUp(t.kind);
                 System.arraycopy(tally, 0, t.seen, 0, KINDS);
             }
             last.behind = null;
@@ -913,9 +918,16 @@ public final class NumberKeeper {
             }
             Arrays.fill(tally, 0);
             for (Thing t = host.first; t != null; t = t.next) {
-                tally[t.kind]++;
-                t.rank = tally[t.kind];
+                t.rank = tallyUp(t.kind);
             }
+        }
+
+        private int tallyUp(int kind) {
+            if (kind < 0 || kind >= tally.length) {
+                return 0;
+            }
+            tally[kind]++;
+            return tally[kind];
         }
 
         private void settle(Thing t) {
@@ -929,7 +941,7 @@ public final class NumberKeeper {
                 t.count = t.rank;
             } else {
                 Thing from = above == null ? text : above;
-                t.count = t.seen[t.kind] - from.seen[t.kind];
+                t.count = t.seenOf(t.kind) - from.seenOf(t.kind);
             }
         }
 

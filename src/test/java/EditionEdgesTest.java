@@ -153,6 +153,14 @@ public final class EditionEdgesTest {
         c.due("one that came", c.old(1, 0, "1"), 3);
         c.due("one that is there", c.old(1, 0, "2"), 1);
         c.due("one that it did not have", c.old(1, 0, "3"), NONE);
+
+        k = flat(c, "22: THINGS that came behind EDITION e", 2);
+        k.edition();
+        k.add(0, NONE, 2);
+        k.add(0, NONE, 3);
+        c.due("it has no number in it", c.old(0, 0, "3"), NONE);
+        c.due("nor one behind all numbers", c.old(0, 0, "4"), NONE);
+        c.due("the last that it had", c.old(0, 0, "2"), 1);
     }
 
     private static void leadsArguments(Check c) {

@@ -29,6 +29,7 @@ public final class MentionEdgesTest {
         runsByCount(c);
         runsByBase(c);
         runsOfLongBases(c);
+        mostRuns(c);
         runsInOrder(c);
         runsOfJoined(c);
         runsOfGone(c);
@@ -441,6 +442,42 @@ public final class MentionEdgesTest {
         c.due("range", k.range(0, 2, 9, 24), 0);
         c.due("text", c.text(0), "1, 2, 3, 4, 5, 6, 7 to 8");
         c.due("runs", k.about(0, 3), 7);
+    }
+
+    /** Twelve RUNS of one, each with a NUMBER of some 38 bytes: there is hardly a longer text. */
+    private static void mostRuns(Check c) {
+        String base = "(i)(i)(i)(i)(i)(i)(i)(i)(i)(i)";
+        String[] signs = {"lxvi", "lxviii", "lxx", "lxxii", "lxxiv", "lxxvi", "lxxviii", "lxxx", "lxxxii", "lxxxiv",
+            "lxxxvi", "lxxxviii"};
+        StringBuilder due = new StringBuilder("abcdefghij ");
+        for (int i = 0; i < 12; i++) {
+            due.append(i == 0 ? "" : ", ").append(base).append('(').append(signs[i]).append(')');
+        }
+        // Its bytes are asked on two objects, since one has only 512 calls.
+        for (int half = 0; half < 2; half++) {
+            CountedKeeper k = c.fresh("RUNS of a RANGE of 12, all of one, half " + half);
+            c.word(0, "abcdefghij");
+            k.form(0, 0, 3, 2);
+            k.form(1, 0, 3, 2);
+            int on = NONE;
+            for (int i = 0; i < 10; i++) {
+                on = k.add(1, on, 0);
+            }
+            for (int i = 0; i < 77; i++) {
+                k.add(0, on, i);
+            }
+            c.due("range", k.range(0, 0, 10 + 65, 10 + 76), 0);
+            for (int i = 0; i < 11; i++) {
+                k.add(0, on, 66 + 2 * i);
+            }
+            c.due("runs", k.about(0, 3), 12);
+            c.due("bytes", k.about(0, 5), due.length());
+            int from = half * due.length() / 2;
+            for (int i = from; i < from + due.length() / 2 + 1; i++) {
+                c.due("byte " + i, k.text(0, i), i < due.length() ? due.charAt(i) : NONE);
+            }
+            c.due("behind it", k.text(0, due.length()), NONE);
+        }
     }
 
     private static void runsInOrder(Check c) {

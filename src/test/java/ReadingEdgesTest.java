@@ -21,6 +21,7 @@ public final class ReadingEdgesTest {
         bytesOfTheRun(c);
         runOfNone(c);
         runToTheEnd(c);
+        tapeThatWasLonger(c);
         wordWhole(c);
         noWord(c);
         longestPart(c);
@@ -247,10 +248,25 @@ public final class ReadingEdgesTest {
         due(c, 0, times("-", 599) + "P");
         due(c, 0, "P " + times("2", 598), "0-600 0 0 -1");
         due(c, 0, "P " + times("1", 598), "0-3 0 1 0");
-        // What was on the tape ahead of it is no part of it.
-        c.tape("P 1");
-        c.keeper.end(2);
-        c.due("cut off", c.keeper.read(0), 0);
+    }
+
+    private static void tapeThatWasLonger(Check c) {
+        CountedKeeper k = book(c, "bytes that end() took from THE TAPE are no part of it");
+        String text = "Part 1.2";
+        String[] due = {"", "", "", "", "", "", "0-6 0 2 0", "0-6 0 2 0", "0-8 0 1 3"};
+        for (int n = 0; n < due.length; n++) {
+            c.tape(text);
+            k.end(n);
+            c.due("findings of " + n, k.read(1), due[n].isEmpty() ? 0 : 1);
+            if (!due[n].isEmpty()) {
+                c.due("finding of " + n, c.finding(0), due[n]);
+            }
+        }
+        // At the very end of the room of THE TAPE nothing may be looked for behind it.
+        for (int n = 1; n <= text.length(); n++) {
+            c.due("findings of the last " + n, c.read(1, times("-", 600 - n) + text.substring(0, n)), n < 6 ? 0 : 1);
+        }
+        c.due("the last one", c.finding(0), "592-600 0 1 3");
     }
 
     private static void wordWhole(Check c) {

@@ -586,6 +586,17 @@ public final class ThingEdgesTest {
         c.due("tree", c.tree(), "0:-1/0 2:0/0 3:0/1 4:0/2 5:-1/1");
         c.due("undo of the first join", k.undo(), 6);
         c.due("tree", c.tree(), "0:-1/0 2:0/0 1:-1/1 3:1/0 4:1/1 5:-1/2");
+
+        k = c.fresh("10: a join is undone, where none hung on x");
+        k.add(0, NONE, 0);
+        k.add(0, NONE, 1);
+        k.add(1, 1, 0);
+        k.add(1, 1, 1);
+        c.due("join", k.join(0, 1), 2);
+        c.due("undo", k.undo(), 4);
+        c.due("tree", c.tree(), "0:-1/0 1:-1/1 2:1/0 3:1/1");
+        c.due("on x", k.thing(0, 3), 0);
+        c.due("on y", k.thing(1, 3), 2);
     }
 
     private static void undoneNumbers(Check c) {
